@@ -93,6 +93,10 @@ final class Check {
         due("launch(" + t + ")", x.launch(t), OK);
     }
 
+    static boolean anyWrong() {
+        return wrong != 0;
+    }
+
     static void end() {
         System.out.println(done + " checks, " + wrong + " wrong");
         if (wrong != 0) {
