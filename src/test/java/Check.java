@@ -77,6 +77,32 @@ final class Check {
         due(what + " changes nothing", Arrays.equals(before, everything(x)), true);
     }
 
+    static void alike(String what, MultiwordSwap x, MultiwordSwap twin) {
+        due(what + " leaves both alike", Arrays.equals(everything(twin), everything(x)), true);
+    }
+
+    /** How many of all the answers are other than before. */
+    static int changed(MultiwordSwap x, int[] before) {
+        int[] after = everything(x);
+        int count = 0;
+        for (int i = 0; i < before.length; i++) {
+            count += before[i] != after[i] ? 1 : 0;
+        }
+        return count;
+    }
+
+    static void draft(MultiwordSwap x, int t, int a, int has, int expected, int desired) {
+        due("draft of " + t + " has " + a, x.term(t, a, DRAFT_HAS), has);
+        due("draft of " + t + " expects at " + a, x.term(t, a, DRAFT_EXPECTED), expected);
+        due("draft of " + t + " desires at " + a, x.term(t, a, DRAFT_DESIRED), desired);
+    }
+
+    static void live(MultiwordSwap x, int t, int a, int has, int expected, int desired) {
+        due("operation of " + t + " has " + a, x.term(t, a, LIVE_HAS), has);
+        due("operation of " + t + " expects at " + a, x.term(t, a, LIVE_EXPECTED), expected);
+        due("operation of " + t + " desires at " + a, x.term(t, a, LIVE_DESIRED), desired);
+    }
+
     /** The aim of t in one go: kind, owner, place, late. */
     static void aim(String what, MultiwordSwap x, int t, int kind, int target, int place, boolean late) {
         due(what + ": aim(" + t + ")", x.aim(t), kind);

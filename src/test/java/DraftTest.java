@@ -31,14 +31,14 @@ public final class DraftTest {
     private static void entriesAreAddedAndReplaced() {
         MultiwordSwap x = new MultiwordSwap(2, 8, 3);
         Check.due("put new", x.put(0, 5, 1, 2), Check.OK);
-        entry(x, 0, 5, 1, 1, 2);
+        Check.draft(x, 0, 5, 1, 1, 2);
         Check.due("put again", x.put(0, 5, 3, 4), Check.OK);
-        entry(x, 0, 5, 1, 3, 4);
-        entry(x, 1, 5, 0, 0, 0);
+        Check.draft(x, 0, 5, 1, 3, 4);
+        Check.draft(x, 1, 5, 0, 0, 0);
         Check.due("put lower", x.put(0, 2, 9, 9), Check.OK);
-        entry(x, 0, 2, 1, 9, 9);
-        entry(x, 0, 5, 1, 3, 4);
-        entry(x, 0, 3, 0, 0, 0);
+        Check.draft(x, 0, 2, 1, 9, 9);
+        Check.draft(x, 0, 5, 1, 3, 4);
+        Check.draft(x, 0, 3, 0, 0, 0);
     }
 
     private static void aFullDraft() {
@@ -50,8 +50,8 @@ public final class DraftTest {
         Check.due("put into a full draft", x.put(0, 3, 3, 3), Check.FULL);
         Check.unchanged("FULL", x, before);
         Check.due("replacing in a full draft", x.put(0, 1, 5, 6), Check.OK);
-        entry(x, 0, 1, 1, 5, 6);
-        entry(x, 0, 2, 1, 2, 2);
+        Check.draft(x, 0, 1, 1, 5, 6);
+        Check.draft(x, 0, 2, 1, 2, 2);
         Check.due("the other draft is not full", x.put(1, 3, 3, 3), Check.OK);
         Check.due("still full", x.put(0, 0, 3, 3), Check.FULL);
     }
@@ -62,7 +62,7 @@ public final class DraftTest {
         for (int expected : values) {
             for (int desired : values) {
                 Check.due("put any int", x.put(1, 3, expected, desired), Check.OK);
-                entry(x, 1, 3, 1, expected, desired);
+                Check.draft(x, 1, 3, 1, expected, desired);
             }
         }
     }
@@ -74,20 +74,20 @@ public final class DraftTest {
         Check.due("put while running", x.put(0, 1, 7, 8), Check.OK);
         Check.due("put elsewhere while running", x.put(0, 4, 7, 8), Check.OK);
         Check.due("put too much while running", x.put(0, 5, 7, 8), Check.FULL);
-        live(x, 0, 1, 1, 0, 10);
-        live(x, 0, 2, 1, 0, 20);
-        live(x, 0, 4, 0, 0, 0);
+        Check.live(x, 0, 1, 1, 0, 10);
+        Check.live(x, 0, 2, 1, 0, 20);
+        Check.live(x, 0, 4, 0, 0, 0);
         Check.due("holder stays", x.holder(1), 0);
         Check.aim("put leaves the aim", x, 0, Check.CLAIM, 0, 2, false);
         Check.due("drop while running", x.drop(0), Check.OK);
-        entry(x, 0, 1, 0, 0, 0);
-        live(x, 0, 1, 1, 0, 10);
+        Check.draft(x, 0, 1, 0, 0, 0);
+        Check.live(x, 0, 1, 1, 0, 10);
         x.put(0, 3, 5, 6);
         Check.due("run", x.run(0, 64), Check.DONE);
         Check.due("the launched entries count", x.value(1), 10);
         Check.due("the launched entries count", x.value(2), 20);
         Check.due("not the drafted one", x.value(3), 0);
-        entry(x, 0, 3, 1, 5, 6);
+        Check.draft(x, 0, 3, 1, 5, 6);
         x.read(0, 0);
         Check.due("put while reading", x.put(0, 0, 1, 2), Check.OK);
         Check.due("drop while reading", x.drop(0), Check.OK);
@@ -109,18 +109,6 @@ public final class DraftTest {
         Check.due("no more room than before", x.put(0, 5, 1, 1), Check.FULL);
         x.put(1, 3, 6, 6);
         x.drop(0);
-        entry(x, 1, 3, 1, 6, 6);
-    }
-
-    private static void entry(MultiwordSwap x, int t, int a, int has, int expected, int desired) {
-        Check.due("draft of " + t + " has " + a, x.term(t, a, Check.DRAFT_HAS), has);
-        Check.due("draft of " + t + " expects at " + a, x.term(t, a, Check.DRAFT_EXPECTED), expected);
-        Check.due("draft of " + t + " desires at " + a, x.term(t, a, Check.DRAFT_DESIRED), desired);
-    }
-
-    private static void live(MultiwordSwap x, int t, int a, int has, int expected, int desired) {
-        Check.due("swap of " + t + " has " + a, x.term(t, a, Check.LIVE_HAS), has);
-        Check.due("swap of " + t + " expects at " + a, x.term(t, a, Check.LIVE_EXPECTED), expected);
-        Check.due("swap of " + t + " desires at " + a, x.term(t, a, Check.LIVE_DESIRED), desired);
+        Check.draft(x, 1, 3, 1, 6, 6);
     }
 }

@@ -100,15 +100,8 @@ public final class LaunchTest {
         Check.due("value stays", x.value(0), 6);
         Check.aim("others' aims stay", x, 1, Check.CLAIM, 1, 1, false);
         Check.due("others' drafts stay", x.term(2, 1, Check.DRAFT_HAS), 1);
-        int[] after = Check.everything(x);
-        int changed = 0;
-        for (int i = 0; i < before.length; i++) {
-            if (before[i] != after[i]) {
-                changed++;
-            }
-        }
         // State of 0, and three parts each of its draft and its swap.
-        Check.due("answers changed by launch", changed, 7);
+        Check.due("answers changed by launch", Check.changed(x, before), 7);
     }
 
     private static void launchLeavesLateAims() {
